@@ -813,11 +813,15 @@ public final class EatenMaps {
             passed = 0;
             townNight = NONE;
             town = NONE;
-            for (int at = 0; at < pad.size && why == 0; at += Pad.actLength(pad.signAt(at))) {
-                why = attempt(pad.signAt(at), pad.signAt(at + 1), pad.signAt(at + 2));
+            int at = 0;
+            // No ACT is of less than one sign, so that a full PAD has as many ACTS as signs at the most.
+            for (int act = 0; act < PAD_SIGNS && at < pad.size && why == 0; act++) {
+                int first = pad.signAt(at);
+                why = attempt(first, pad.signAt(at + 1), pad.signAt(at + 2));
                 if (why == 0) {
-                    note(pad.signAt(at));
+                    note(first);
                 }
+                at += Pad.actLength(first);
             }
         }
 

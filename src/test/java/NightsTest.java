@@ -8,6 +8,7 @@ public final class NightsTest {
         test.leastReason();
         test.nightNinetyNine();
         test.judgeRefusals();
+        test.headingLetters();
         test.done();
         test.behind();
         test.turningRight();
@@ -100,6 +101,21 @@ public final class NightsTest {
         due.is("judge(0), a fault behind an act that can not be", -5, maps.judge(0));
         due.is("judge(1)", -5, maps.judge(1));
         due.is("judge(2)", -2, maps.judge(2));
+    }
+
+    private void headingLetters() {
+        due.of("nights, n e s w");
+        for (int moth = 0; moth < 4; moth++) {
+            for (int heads = 0; heads < 4; heads++) {
+                EatenMaps maps = new EatenMaps();
+                maps.moth(moth, 12, (heads + 1) % 4);
+                Due.write(maps, "" + "ABCD".charAt(moth) + "nesw".charAt(heads));
+                due.is("flies(moth, 1)", heads, maps.flies(moth, 1));
+                due.is("flies(moth, 0)", 12, maps.flies(moth, 0));
+                Due.write(maps, ".");
+                due.is("flies(moth, 0)", new int[] {7, 13, 17, 11}[heads], maps.flies(moth, 0));
+            }
+        }
     }
 
     private void done() {

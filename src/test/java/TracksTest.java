@@ -254,7 +254,7 @@ public final class TracksTest {
     private void yearActs() {
         due.of("promise 25, single acts");
         int[] seen = new int[8];
-        for (int seed = 0; seed < 400; seed++) {
+        for (int seed = 0; seed < 10000; seed += 19) {
             int x = (75 * seed + 74) % 65537;
             int y = x / 8;
             EatenMaps maps = new EatenMaps();
@@ -353,8 +353,13 @@ public final class TracksTest {
         due.is("restore(-1)", -2, maps.restore(-1));
         due.is("restore(0)", -3, maps.restore(0));
         due.is("told(4)", 2, maps.told(4));
+        maps.forget();
+        maps.seen(2, 2);
+        maps.seen(3, 3);
         due.is("restore(1), again", 1, maps.restore(1));
         due.is("told(4)", 1, maps.told(4));
+        due.is("began(-1): the sight of then", 4, maps.began(-1));
+        due.is("began(0): the sight of then", 82, maps.began(0));
     }
 
     private void told() {
