@@ -1,3 +1,5 @@
+import java.util.function.IntToLongFunction;
+
 /** Counts answers that are not the ones that are due, and ends a test. */
 final class Due {
     private int checks;
@@ -14,6 +16,18 @@ final class Due {
         if (want != got) {
             wrong++;
             System.out.println(promise + ": " + call + " answered " + got + ", due is " + want);
+        }
+    }
+
+    /**
+     * Looks at both ends of what a call takes: the least and the greatest number with the answers that are due
+     * there, the first numbers beyond them, and the farthest, all of which are refused.
+     */
+    void ends(String call, IntToLongFunction asked, int least, long atLeast, int most, long atMost, long refusal) {
+        is(call + " with " + least, atLeast, asked.applyAsLong(least));
+        is(call + " with " + most, atMost, asked.applyAsLong(most));
+        for (int beyond : new int[] {least - 1, most + 1, Integer.MIN_VALUE, Integer.MAX_VALUE}) {
+            is(call + " with " + beyond, refusal, asked.applyAsLong(beyond));
         }
     }
 
@@ -44,8 +58,32 @@ final class Due {
         return maps.done();
     }
 
-    /** A cell's number by its letter. */
-    static int cell(char letter) {
-        return letter - 'a';
+    /** A new object with a text on its pad. */
+    static EatenMaps written(String text) {
+        EatenMaps maps = new EatenMaps();
+        write(maps, text);
+        return maps;
+    }
+
+    /** A new object in which it is some night, 99 at most, and nothing else has come to pass. */
+    static EatenMaps atNight(int night) {
+        EatenMaps maps = new EatenMaps();
+        doNights(maps, ".".repeat(night / 2));
+        doNights(maps, ".".repeat(night - night / 2));
+        return maps;
+    }
+
+    /** Gives all 25 cells their lands, five rows of five digits. */
+    static void paint(EatenMaps maps, String rows) {
+        for (int cell = 0; cell < 25; cell++) {
+            maps.land(cell, rows.charAt(cell) - '0');
+        }
+    }
+
+    /** A new object whose cells have these lands. */
+    static EatenMaps painted(String rows) {
+        EatenMaps maps = new EatenMaps();
+        paint(maps, rows);
+        return maps;
     }
 }

@@ -18,12 +18,6 @@ public final class RoadsTest {
         test.due.end();
     }
 
-    private static void paint(EatenMaps maps, String rows) {
-        for (int cell = 0; cell < 25; cell++) {
-            maps.land(cell, rows.charAt(cell) - '0');
-        }
-    }
-
     private void isWhole(EatenMaps maps, int from, int to, int holes, int steps) {
         due.is("whole(" + from + ", " + to + ", 0)", holes, maps.whole(from, to, 0));
         due.is("whole(" + from + ", " + to + ", 1)", steps, maps.whole(from, to, 1));
@@ -33,16 +27,16 @@ public final class RoadsTest {
         due.of("promise 15");
         EatenMaps maps = new EatenMaps();
         isWhole(maps, 0, 24, 0, 8);
-        paint(maps, "11111" + "00000" + "11111" + "33330" + "11111");
+        Due.paint(maps, "11111" + "00000" + "11111" + "33330" + "11111");
         isWhole(maps, 0, 20, 2, 12);
         isWhole(maps, 20, 0, 2, 12);
         isWhole(maps, 0, 10, 1, 2);
         isWhole(maps, 5, 9, 2, 6);
-        paint(maps, "11111" + "10001" + "10101" + "10001" + "11111");
+        Due.paint(maps, "11111" + "10001" + "10101" + "10001" + "11111");
         isWhole(maps, 2, 22, 0, 8);
         isWhole(maps, 2, 12, 1, 2);
         isWhole(maps, 0, 12, 1, 4);
-        paint(maps, "13111" + "13131" + "13131" + "13131" + "11131");
+        Due.paint(maps, "13111" + "13131" + "13131" + "13131" + "11131");
         isWhole(maps, 0, 24, 0, 16);
         maps.land(2, 3);
         isWhole(maps, 0, 24, -6, -6);
@@ -67,7 +61,7 @@ public final class RoadsTest {
         isWhole(maps, 0, 24, -6, -6);
         isWhole(maps, 24, 0, -6, -6);
         isWhole(maps, 0, 0, -6, -6);
-        paint(maps, "00000".repeat(5));
+        Due.paint(maps, "00000".repeat(5));
         isWhole(maps, 0, 24, 9, 8);
     }
 
@@ -203,7 +197,7 @@ public final class RoadsTest {
         due.is("darned(0)", -3, maps.darned(0));
         due.is("darned(1)", -3, maps.darned(1));
         due.is("darned(2)", -2, maps.darned(2));
-        paint(maps, "00011" + "00011" + "00011" + "11111" + "11111");
+        Due.paint(maps, "00011" + "00011" + "00011" + "11111" + "11111");
         isDarned(maps, 246, 121212121);
         maps.land(3, 4);
         due.is("darned(1)", 121212121, maps.darned(1));
@@ -218,7 +212,7 @@ public final class RoadsTest {
         due.of("promise 18");
         EatenMaps maps = new EatenMaps();
         isSheet(maps, 1111, 16, 0);
-        paint(maps, "01234" + "50123" + "45012" + "34501" + "23450");
+        Due.paint(maps, "01234" + "50123" + "45012" + "34501" + "23450");
         isSheet(maps, 150, 4, 0);
         isSheet(maps, 1201, 3, 1);
         isSheet(maps, 2312, 2, 2);
@@ -231,7 +225,7 @@ public final class RoadsTest {
         maps.land(18, 0);
         maps.land(19, 0);
         isSheet(maps, 0, 1, 18);
-        paint(maps, "11112" + "31111" + "11111" + "11111" + "11111");
+        Due.paint(maps, "11112" + "31111" + "11111" + "11111" + "11111");
         isSheet(maps, 1231, 0, -6);
         isSheet(maps, 1131, 1, 0);
     }
