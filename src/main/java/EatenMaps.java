@@ -537,7 +537,7 @@ public final class EatenMaps {
         }
 
         boolean isThere(int moth) {
-            return isMoth(moth) && there[moth];
+            return moth >= 0 && moth < MOTHS && there[moth];
         }
 
         int mothBits() {

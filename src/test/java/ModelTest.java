@@ -11,6 +11,7 @@ public final class ModelTest {
     private EatenMaps maps;
     private Naive naive;
     private int run;
+    private int made;
 
     public static void main(String[] args) {
         ModelTest test = new ModelTest();
@@ -26,18 +27,23 @@ public final class ModelTest {
         naive = new Naive();
         int holesInTen = random.nextInt(6);
         int moths = random.nextInt(5);
-        int calls = 0;
+        made = 0;
         for (int cell = 0; cell < 25; cell++) {
             int v = random.nextInt(10) < holesInTen ? 0 : random.nextInt(6);
             both("land", cell, v);
-            calls++;
         }
         for (int i = 0; i < moths; i++) {
             both("moth", random.nextInt(4), random.nextInt(25), random.nextInt(4));
-            calls++;
         }
-        while (calls < CALLS) {
-            calls += random.nextInt(4) == 0 ? text() : random.nextInt(2) == 0 ? change() : question();
+        while (made < CALLS) {
+            int dice = random.nextInt(8);
+            if (dice < 2) {
+                text();
+            } else if (dice < 5) {
+                change();
+            } else {
+                question();
+            }
         }
     }
 
@@ -50,20 +56,17 @@ public final class ModelTest {
         return least + random.nextInt(most - least + 1);
     }
 
-    private int text() {
+    private void text() {
         StringBuilder text = new StringBuilder();
         int acts = random.nextInt(random.nextInt(8) == 0 ? 30 : 9);
         for (int i = 0; i < acts; i++) {
             text.append(act());
         }
-        int calls = 0;
         if (random.nextInt(5) != 0) {
             both("wipe");
-            calls++;
         }
         for (int i = 0; i < text.length(); i++) {
             both("say", random.nextInt(150) == 0 ? number(33, 126) : text.charAt(i));
-            calls++;
         }
         both("fault");
         both("judge", 0);
@@ -73,12 +76,9 @@ public final class ModelTest {
         }
         both("behind", number(0, 24), number(0, 1));
         both("flies", number(0, 3), number(0, 1));
-        calls += 10;
         if (random.nextBoolean()) {
             both("done");
-            calls++;
         }
-        return calls;
     }
 
     private String act() {
@@ -106,61 +106,67 @@ public final class ModelTest {
         return (char) ('a' + cell);
     }
 
-    private int change() {
+    private void change() {
         switch (random.nextInt(10)) {
-            case 0:
-            case 1:
-                return both("land", number(0, 24), number(0, 5));
-            case 2:
-                return both("camphor", number(0, 24), number(0, 9));
-            case 3:
-                return both("moth", number(0, 3), number(0, 24), number(0, 3));
-            case 4:
-                return both("spool", number(1, 3), random.nextInt(3) == 0 ? 0 : number(0, 99));
-            case 5:
-                return both("image", number(0, 1));
-            case 6:
-                return random.nextInt(3) == 0 ? both("restore", number(0, 1)) : both("began", number(-1, 5));
-            case 7:
-                return random.nextInt(3) == 0 ? both("forget") : both("told", number(0, 4));
-            default:
-                return sight();
+            case 0, 1 -> both("land", number(0, 24), number(0, 5));
+            case 2 -> both("camphor", number(0, 24), number(0, 9));
+            case 3 -> both("moth", number(0, 3), number(0, 24), number(0, 3));
+            case 4 -> both("spool", number(1, 3), random.nextInt(3) == 0 ? 0 : number(0, 99));
+            case 5 -> both("image", number(0, 1));
+            case 6 -> seldom("restore", number(0, 1), "began", number(-1, 5));
+            case 7 -> forgetSeldom();
+            default -> sight();
+        }
+    }
+
+    private void seldom(String call, int v, String other, int w) {
+        if (random.nextInt(3) == 0) {
+            both(call, v);
+        } else {
+            both(other, w);
+        }
+    }
+
+    private void forgetSeldom() {
+        if (random.nextInt(3) == 0) {
+            both("forget");
+        } else {
+            both("told", number(0, 4));
         }
     }
 
     /** Most sights are of one moth's way, so that something fits. */
-    private int sight() {
-        int night = number(0, 40);
-        int edge = random.nextInt(5);
-        return random.nextInt(4) == 0 ? both("seen", night, number(0, 24)) : both("seen", random.nextInt(6), edge);
+    private void sight() {
+        if (random.nextInt(4) == 0) {
+            both("seen", number(0, 40), number(0, 24));
+        } else {
+            both("seen", random.nextInt(6), random.nextInt(5));
+        }
     }
 
-    private int question() {
+    private void question() {
         switch (random.nextInt(12)) {
-            case 0:
-                return both("road", number(0, 24), number(0, 24));
-            case 1:
-                return both("whole", number(0, 24), number(0, 24), number(0, 1));
-            case 2:
-                return random.nextInt(4) == 0 ? both("camphored", number(0, 24), number(0, 1)) : both("told", number(0, 40));
-            case 3:
-                return random.nextInt(4) == 0 ? both("darned", number(0, 1)) : both("told", number(100, 124));
-            case 4:
-                return both("sheet", fourLands(), number(0, 1));
-            case 5:
-                return both("began", number(-1, 30));
-            case 6:
-                return both("ask", number(0, 1));
-            case 7:
-                return both("folds", number(0, 60), number(0, 1));
-            case 8:
-                return coffee();
-            case 9:
-                return both("year", number(0, 9999), number(1, 99), number(0, 2));
-            case 10:
-                return both("told", number(200, 224));
-            default:
-                return both("told", number(0, 230));
+            case 0 -> both("road", number(0, 24), number(0, 24));
+            case 1 -> both("whole", number(0, 24), number(0, 24), number(0, 1));
+            case 2 -> dearQuestion();
+            case 3 -> both("told", number(100, 124));
+            case 4 -> both("sheet", fourLands(), number(0, 1));
+            case 5 -> both("began", number(-1, 30));
+            case 6 -> both("ask", number(0, 1));
+            case 7 -> both("folds", number(0, 60), number(0, 1));
+            case 8 -> coffee();
+            case 9 -> both("year", number(0, 9999), number(1, 99), number(0, 2));
+            case 10 -> both("told", number(200, 224));
+            default -> both("told", number(0, 230));
+        }
+    }
+
+    /** Naive tries all sets of cells, all ways to darn: that is not asked often. */
+    private void dearQuestion() {
+        switch (random.nextInt(4)) {
+            case 0 -> both("camphored", number(0, 24), number(0, 1));
+            case 1 -> both("darned", number(0, 1));
+            default -> both("told", number(0, 40));
         }
     }
 
@@ -172,25 +178,25 @@ public final class ModelTest {
             + naive.told(106 + cell);
     }
 
-    private int coffee() {
+    private void coffee() {
         int m = number(0, 9);
         int most = Math.max(0, Math.min(9, m));
         int a = number(0, 10);
         int b = number(0, Math.max(0, Math.min(10, 10 - Math.max(0, a))));
-        return both("coffee", m, number(0, most), a, b, number(0, 16), number(0, most), number(0, 1));
+        both("coffee", m, number(0, most), a, b, number(0, 16), number(0, most), number(0, 1));
     }
 
-    private int both(String call, int... v) {
-        StringBuilder told = new StringBuilder(call);
-        for (int one : v) {
-            told.append(' ').append(one);
+    /** One call on both; none behind the last one that is promised. */
+    private void both(String call, int... v) {
+        if (made >= CALLS) {
+            return;
         }
-        due.is(told.toString(), answer(naive, call, v), answer(maps, call, v));
-        return 1;
+        made++;
+        due.is(call + Arrays.toString(v), answer(naive, call, v), answer(maps, call, v));
     }
 
     /** Both have methods of the same names; what one of them throws ends the test. */
-    private static long answer(Object target, String call, int[] v) {
+    static long answer(Object target, String call, int[] v) {
         Object[] arguments = new Object[v.length];
         Class<?>[] types = new Class<?>[v.length];
         for (int i = 0; i < v.length; i++) {

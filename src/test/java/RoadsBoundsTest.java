@@ -9,6 +9,7 @@ public final class RoadsBoundsTest {
 
     public static void main(String[] args) {
         RoadsBoundsTest test = new RoadsBoundsTest();
+        test.asThingsAreNow();
         test.wholeCells();
         test.wholeWhat();
         test.wholeRefused();
@@ -38,6 +39,7 @@ public final class RoadsBoundsTest {
         test.darnedByABoundary();
         test.darnedAlike();
         test.darnedThreads();
+        test.questionsLeaveNothingBehind();
         test.sheetLands();
         test.sheetWhat();
         test.sheetAllAndNone();
@@ -49,6 +51,25 @@ public final class RoadsBoundsTest {
     private void isWhole(EatenMaps maps, int from, int to, int holes, int steps) {
         due.is("whole(" + from + ", " + to + ", 0)", holes, maps.whole(from, to, 0));
         due.is("whole(" + from + ", " + to + ", 1)", steps, maps.whole(from, to, 1));
+    }
+
+    /** A text by which cell 1 would be eaten, a moth caught, a hole darned; or one with a fault. */
+    private void asThingsAreNow() {
+        due.of("3: as things are now, whatever is on the pad");
+        for (String text : new String[] {"", "..%y3A!", "A", "Bn"}) {
+            EatenMaps maps = Due.written(text);
+            maps.moth(0, 0, 1);
+            maps.land(24, 0);
+            maps.land(5, 3);
+            due.is("road(0, 2) by " + text, 2, maps.road(0, 2));
+            due.is("road(23, 24) by " + text, NONE, maps.road(23, 24));
+            isWhole(maps, 0, 2, 0, 2);
+            isWhole(maps, 0, 24, 1, 8);
+            isCamphored(maps, 12, 1, 5);
+            isDarned(maps, 3, 1);
+            isSheet(maps, 1131, 1, 0);
+            isSheet(maps, 1110, 1, 18);
+        }
     }
 
     private void wholeCells() {
@@ -350,6 +371,28 @@ public final class RoadsBoundsTest {
                 maps.spool(thread, many);
             }
             isDarned(maps, 246, 121212121);
+        }
+    }
+
+    /** One object asked again and again while its map changes, against new ones that are asked once. */
+    private void questionsLeaveNothingBehind() {
+        due.of("3: what was asked before does not matter");
+        String[] maps = {"0".repeat(9) + "1".repeat(16), "01010" + "10101" + "01010" + "11111" + "10111",
+            "1".repeat(16) + "0".repeat(9), "1".repeat(25), "04140" + "40111" + "00111" + "11111" + "11100",
+            "10111" + "00011" + "10111" + "11111" + "11111", "3".repeat(25), "01111" + "1".repeat(20)};
+        EatenMaps asked = withMoths(0);
+        for (int i = 0; i < maps.length; i++) {
+            EatenMaps fresh = withMoths(3 * i);
+            asked.moth(0, 3 * i, 0);
+            Due.paint(fresh, maps[i]);
+            Due.paint(asked, maps[i]);
+            for (int what = 0; what <= 1; what++) {
+                due.is("darned(" + what + ") of " + maps[i], fresh.darned(what), asked.darned(what));
+                due.is("whole(0, 24, " + what + ") of " + maps[i], fresh.whole(0, 24, what), asked.whole(0, 24, what));
+                due.is("camphored(24, " + what + ")", fresh.camphored(24, what), asked.camphored(24, what));
+                due.is("camphored(2, " + what + ")", fresh.camphored(2, what), asked.camphored(2, what));
+                due.is("sheet(1111, " + what + ") of " + maps[i], fresh.sheet(1111, what), asked.sheet(1111, what));
+            }
         }
     }
 

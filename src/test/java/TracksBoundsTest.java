@@ -37,11 +37,13 @@ public final class TracksBoundsTest {
         test.yearSeeds();
         test.yearActs();
         test.yearWhat();
+        test.yearFromAllAsItIs();
         test.yearNothingAndAll();
         test.yearNightNinetyNine();
         test.yearCamphor();
         test.yearThreads();
         test.yearMoths();
+        test.questionsLeaveNothingBehind();
         test.imageNumbers();
         test.restoreNumbers();
         test.restoreNotKept();
@@ -411,6 +413,21 @@ public final class TracksBoundsTest {
         due.is("year(10000, 100, 3)", OUTSIDE, new EatenMaps().year(10000, 100, 3));
     }
 
+    private void yearFromAllAsItIs() {
+        due.of("4, A YEAR: from all as it is, nothing is done in fact");
+        for (String text : new String[] {"", "...A!", "A", "Bn"}) {
+            EatenMaps maps = Due.written(text);
+            maps.moth(0, 0, 1);
+            int seed = seedFrom(0, 4, 4, 4);
+            for (int times = 0; times < 3; times++) {
+                due.is("year(seed, 3, 0) by " + text, 3, maps.year(seed, 3, 0));
+                due.is("told(3) by " + text, 0, maps.told(3));
+                due.is("told(2) by " + text, 0, maps.told(2));
+                due.is("told(20) by " + text, 0, maps.told(20));
+            }
+        }
+    }
+
     private void yearNothingAndAll() {
         due.of("4, A YEAR: holes, threads, towns, none and all");
         EatenMaps maps = Due.painted("4".repeat(25));
@@ -473,22 +490,27 @@ public final class TracksBoundsTest {
 
     private void yearThreads() {
         due.of("4, A YEAR: darned, if there is a hole and such a thread left");
-        for (int kind = 2; kind <= 3; kind++) {
-            int seed = seedFrom(0, kind);
-            int y = draw(seed) / 8;
-            int thread = 1 + y / 25 % 3;
+        for (int seed = 0; seed < 10000; seed += 7) {
+            int x = draw(seed);
+            if (x % 8 != 2 && x % 8 != 3) {
+                continue;
+            }
+            int thread = 1 + x / 8 / 25 % 3;
             EatenMaps maps = Due.painted("0".repeat(25));
-            due.is("year(seed, 1, 0)", 24, maps.year(seed, 1, 0));
-            due.is("year(seed, 1, 1)", 26, maps.year(seed, 1, 1));
-            maps.spool(thread, 1);
-            due.is("year(seed, 1, 1), the last of it", 18, maps.year(seed, 1, 1));
-            maps.spool(thread, 0);
-            due.is("year(seed, 1, 0), none of it", 25, maps.year(seed, 1, 0));
-            due.is("year(seed, 1, 1), none of it", 18, maps.year(seed, 1, 1));
+            for (int other = 1; other <= 3; other++) {
+                maps.spool(other, other == thread ? 1 : 0);
+            }
+            due.is("year(" + seed + ", 1, 0), the last of it", 24, maps.year(seed, 1, 0));
+            due.is("year(" + seed + ", 1, 1), the last of it", 0, maps.year(seed, 1, 1));
+            for (int other = 1; other <= 3; other++) {
+                maps.spool(other, other == thread ? 0 : 99);
+            }
+            due.is("year(" + seed + ", 1, 0), none of it", 25, maps.year(seed, 1, 0));
+            due.is("year(" + seed + ", 1, 1), none of it", 198, maps.year(seed, 1, 1));
             maps.spool(thread, 9);
-            maps.land(y % 25, 1);
-            due.is("year(seed, 1, 0), no hole", 24, maps.year(seed, 1, 0));
-            due.is("year(seed, 1, 1), no hole", 27, maps.year(seed, 1, 1));
+            maps.land(x / 8 % 25, 1);
+            due.is("year(" + seed + ", 1, 0), no hole", 24, maps.year(seed, 1, 0));
+            due.is("year(" + seed + ", 1, 1), no hole", 207, maps.year(seed, 1, 1));
         }
     }
 
@@ -505,6 +527,37 @@ public final class TracksBoundsTest {
             Due.doNights(maps, "ABCD".charAt(y % 4) + "!");
             maps.moth((y + 1) % 4, 12, (heads + 1) % 4);
             due.is("year(" + seed + ", 2, 2), another one", 1, maps.year(seed, 2, 2));
+        }
+    }
+
+    /** One object asked again and again, against new ones that are asked once. */
+    private void questionsLeaveNothingBehind() {
+        due.of("4: what was asked before does not matter");
+        EatenMaps asked = new EatenMaps();
+        int[][] sights = {{0, 0}, {1, 1}, {}, {40, 24}, {0, 0, 0, 1}, {0, 12, 1, 7}, {2, 2}, {}, {4, 0, 5, 1}};
+        for (int[] some : sights) {
+            EatenMaps fresh = withSights(some);
+            asked.forget();
+            for (int i = 0; i + 1 < some.length; i += 2) {
+                asked.seen(some[i], some[i + 1]);
+            }
+            for (int i = -1; i <= 7; i++) {
+                due.is("began(" + i + ")", fresh.began(i), asked.began(i));
+            }
+            due.is("ask(0)", fresh.ask(0), asked.ask(0));
+            due.is("ask(1)", fresh.ask(1), asked.ask(1));
+        }
+        for (int m = 9; m >= 0; m--) {
+            for (int q = 0; q <= m; q++) {
+                due.is("coffee(" + m + ", ..)", new EatenMaps().coffee(m, m / 2, 3, 4, m + 7, q, 0),
+                    asked.coffee(m, m / 2, 3, 4, m + 7, q, 0));
+            }
+        }
+        asked.moth(1, 7, 3);
+        for (int seed = 0; seed < 50; seed++) {
+            EatenMaps fresh = new EatenMaps();
+            fresh.moth(1, 7, 3);
+            due.is("year(" + seed + ", 60, 0)", fresh.year(seed, 60, 0), asked.year(seed, 60, 0));
         }
     }
 
